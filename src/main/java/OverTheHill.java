@@ -387,13 +387,29 @@ public final class OverTheHill {
     }
 
     public int siege() {
+        if (!canReadActs()) {
+            int answer = -1 - text.place;
+            text.empty();
+            return answer;
+        }
+        before.copy(now);
         text.open(LONGEST_SIEGE);
-        int answer = canReadActs() ? doActs() : -1 - text.place;
+        int done = 0;
+        boolean refused = false;
+        for (int i = 0; i < LONGEST_SIEGE && !refused && !text.finished(); i++) {
+            refused = doAct() < 0;
+            done += refused ? 0 : 1;
+        }
         text.empty();
-        return answer;
+        if (done > 0) {
+            past.add(before);
+        }
+        row.both(refused ? 1 : 0, Integer.bitCount(shipsOver()));
+        return done;
     }
 
     private boolean canReadActs() {
+        text.open(LONGEST_SIEGE);
         for (int acts = 0; acts < LONGEST_SIEGE && !text.finished(); acts++) {
             boolean good = false;
             if (text.takeSign('d')) {
@@ -408,24 +424,6 @@ public final class OverTheHill {
             }
         }
         return text.finished();
-    }
-
-    private int doActs() {
-        before.copy(now);
-        text.open(LONGEST_SIEGE);
-        int acts = 0;
-        boolean refused = false;
-        for (int i = 0; i < LONGEST_SIEGE && !refused && !text.finished(); i++) {
-            refused = doAct() < 0;
-            if (!refused) {
-                acts++;
-            }
-        }
-        if (acts > 0) {
-            past.add(before);
-        }
-        row.both(refused ? 1 : 0, Integer.bitCount(shipsOver()));
-        return acts;
     }
 
     private int doAct() {
@@ -564,29 +562,18 @@ public final class OverTheHill {
         ways.startLaying();
         if (k == 0) {
             ways.tryPlanks(now.planks, 0);
-        } else {
-            tryAll(free, k);
         }
-        row.only(ways.bestLaid);
-        return ways.leastLaid;
-    }
-
-    /** In the order of the bits' numbers, so that of as good ones the first one tried is the least. */
-    private void tryAll(long free, int k) {
+        // In the order of the bits' numbers, so that of as good ones the first one tried is the least.
         for (int high = 0; high < ground.fields; high++) {
-            if ((free >>> high & 1) == 0) {
-                continue;
-            }
-            if (k == 1) {
-                ways.tryPlanks(now.planks, 1L << high);
-                continue;
-            }
-            for (int low = 0; low < high; low++) {
-                if ((free >>> low & 1) != 0) {
-                    ways.tryPlanks(now.planks, 1L << high | 1L << low);
+            for (int low = 0; low <= high; low++) {
+                long more = 1L << high | 1L << low;
+                if (Long.bitCount(more) == k && (more & ~free) == 0) {
+                    ways.tryPlanks(now.planks, more);
                 }
             }
         }
+        row.only(ways.bestLaid);
+        return ways.leastLaid;
     }
 
     // ---- hours, nights
@@ -682,7 +669,7 @@ public final class OverTheHill {
         if (a < 0 || b < 0 || a > STORM_MEN || b > STORM_MEN - a) {
             return NONE;
         }
-        int ways = 0;
+        int best = 0;
         int most = -4;
         int first = 0;
         int second = 0;
@@ -691,18 +678,18 @@ public final class OverTheHill {
                 int more = wonBy(x, a) + wonBy(y, b) + wonBy(a + b, x + y);
                 if (more > most) {
                     most = more;
-                    ways = 0;
+                    best = 0;
                     first = x;
                     second = y;
                 }
                 if (more == most) {
-                    ways++;
+                    best++;
                 }
             }
         }
         row.both(first, second);
         row.add(most);
-        return ways;
+        return best;
     }
 
     private static int wonBy(int stormers, int defenders) {
@@ -836,17 +823,17 @@ public final class OverTheHill {
     public int law(int ship) {
         int answer = LAW_OF_NO_SHIP;
         if (hasShip(ship)) {
-            answer = other.read(text) ? lawLess(ship) : BAD_LAW - text.place;
+            boolean good = other.read(text);
+            answer = BAD_LAW - text.place;
+            if (good) {
+                int byOther = hoursOver(other, ship);
+                int byRule = hoursOver(rule, ship);
+                row.both(byOther, byRule);
+                answer = byOther - byRule;
+            }
         }
         text.empty();
         return answer;
-    }
-
-    private int lawLess(int ship) {
-        int byOther = hoursOver(other, ship);
-        int byRule = hoursOver(rule, ship);
-        row.both(byOther, byRule);
-        return byOther - byRule;
     }
 
     // ---- rests
@@ -997,8 +984,8 @@ public final class OverTheHill {
         static final int END = -1;
 
         private final char[] signs = new char[ROOM];
-        private int size;
-        private int place;
+        int size;
+        int place;
         /** Signs from here on are not looked at, as if the text ended here. */
         private int limit;
 
@@ -1086,7 +1073,7 @@ public final class OverTheHill {
     /** The ROW: a way over all FIELDS is the longest one. */
     private static final class Row {
         private final long[] numbers = new long[MOST_FIELDS];
-        private int size;
+        int size;
 
         void clear() {
             size = 0;
@@ -1121,16 +1108,16 @@ public final class OverTheHill {
 
     /** LAND as it was told; it stays so till it is told anew. */
     private static final class Ground {
-        private int rows = 1;
-        private int columns = 1;
-        private int fields = 1;
+        int rows = 1;
+        int columns = 1;
+        int fields = 1;
         private final int[] kinds = new int[MOST_FIELDS];
         private final int[] heights = new int[MOST_FIELDS];
         /** By FIELD and HEADING the FIELD there, or NONE if that is outside or ROCK. */
         private final int[] neighbours = new int[MOST_FIELDS * HEADINGS];
-        private long lands;
-        private long seas;
-        private long harbours;
+        long lands;
+        long seas;
+        long harbours;
 
         Ground() {
             kinds[0] = SEA;
@@ -1147,7 +1134,7 @@ public final class OverTheHill {
         }
 
         int heightOf(int field) {
-            return has(field) ? heights[field] : 0;
+            return field >= 0 && field < MOST_FIELDS ? heights[field] : 0;
         }
 
         int beside(int field, int heading) {
@@ -1296,14 +1283,14 @@ public final class OverTheHill {
     private static final class Moment {
         private final int[] places = new int[MOST_SHIPS];
         /** How many; NONE in a number under which nothing is kept. */
-        private int ships;
-        private int dragged;
-        private long planks;
-        private int used;
-        private int night;
-        private int hour;
-        private int noise;
-        private int alarms;
+        int ships;
+        int dragged;
+        long planks;
+        int used;
+        int night;
+        int hour;
+        int noise;
+        int alarms;
 
         void clear() {
             ships = 0;
@@ -1377,7 +1364,7 @@ public final class OverTheHill {
 
         private final Moment[] moments = new Moment[ROOM];
         private int first;
-        private int size;
+        int size;
 
         Past() {
             for (int i = 0; i < ROOM; i++) {
@@ -1417,13 +1404,17 @@ public final class OverTheHill {
     private static final class Rule {
         static final int LONGEST = 40;
         static final int DEEPEST = 4;
+        /** What binds least is the lowest level. */
+        static final int COMPARED = 0;
+        static final int SUMS = 1;
+        static final int PRODUCTS = 2;
         /** Steps below this are numbers to be put, the others signs above it. */
         static final int SIGN = 1000;
         static final char NEGATE = '~';
 
         private final int[] steps = new int[LONGEST];
         /** 0: no RULE is told. */
-        private int size;
+        int size;
         private final int[] stack = new int[LONGEST];
         private int top;
 
@@ -1435,53 +1426,43 @@ public final class OverTheHill {
         boolean read(Text text) {
             size = 0;
             text.open(LONGEST);
-            return text.finished() || readExpression(text, 0) && text.finished();
+            return text.finished() || readJoined(text, COMPARED, 0) && text.finished();
         }
 
-        private boolean readExpression(Text text, int depth) {
-            if (!readSum(text, depth)) {
+        /** Things joined by signs of a level, each thing being such as the levels above it join. */
+        private boolean readJoined(Text text, int level, int depth) {
+            if (level > PRODUCTS) {
+                return readFactor(text, depth);
+            }
+            if (!readJoined(text, level + 1, depth)) {
                 return false;
             }
-            int sign = text.peek();
-            if (sign != '<' && sign != '>' && sign != '=') {
-                return true;
-            }
-            text.step();
-            return readSum(text, depth) && addStep(SIGN + sign);
-        }
-
-        private boolean readSum(Text text, int depth) {
-            if (!readProduct(text, depth)) {
-                return false;
-            }
-            for (int i = 0; i < LONGEST; i++) {
+            int most = level == COMPARED ? 1 : LONGEST;
+            for (int i = 0; i < most && levelOf(text.peek()) == level; i++) {
                 int sign = text.peek();
-                if (sign != '+' && sign != '-') {
-                    return true;
-                }
                 text.step();
-                if (!readProduct(text, depth) || !addStep(SIGN + sign)) {
+                if (!readJoined(text, level + 1, depth) || !addStep(SIGN + sign)) {
                     return false;
                 }
             }
             return true;
         }
 
-        private boolean readProduct(Text text, int depth) {
-            if (!readFactor(text, depth)) {
-                return false;
+        private static int levelOf(int sign) {
+            switch (sign) {
+                case '<':
+                case '>':
+                case '=':
+                    return COMPARED;
+                case '+':
+                case '-':
+                    return SUMS;
+                case '*':
+                case '/':
+                    return PRODUCTS;
+                default:
+                    return NONE;
             }
-            for (int i = 0; i < LONGEST; i++) {
-                int sign = text.peek();
-                if (sign != '*' && sign != '/') {
-                    return true;
-                }
-                text.step();
-                if (!readFactor(text, depth) || !addStep(SIGN + sign)) {
-                    return false;
-                }
-            }
-            return true;
         }
 
         private boolean readFactor(Text text, int depth) {
@@ -1499,7 +1480,7 @@ public final class OverTheHill {
                     return false;
                 }
                 text.step();
-                return readExpression(text, depth + 1) && text.takeSign(')');
+                return readJoined(text, COMPARED, depth + 1) && text.takeSign(')');
             }
             if (sign == 'w' || sign == 'u' || sign == 'v' || sign == 'g' || sign == 'h') {
                 text.step();
@@ -1552,16 +1533,14 @@ public final class OverTheHill {
                         push(-pop());
                         break;
                     default:
-                        push(step < SIGN ? step : joined(step - SIGN));
+                        push(step < SIGN ? step : joined(step - SIGN, pop(), pop()));
                         break;
                 }
             }
             return pop();
         }
 
-        private int joined(int sign) {
-            int right = pop();
-            int left = pop();
+        private static int joined(int sign, int right, int left) {
             switch (sign) {
                 case '+':
                     return left + right;
@@ -1617,14 +1596,10 @@ public final class OverTheHill {
             }
             base = hour * AN_HOUR;
             if ((hoursReady >>> hour & 1) == 0) {
-                workOut(hour, rule, weight);
                 hoursReady |= 1 << hour;
-            }
-        }
-
-        private void workOut(int hour, Rule rule, int weight) {
-            for (int i = 0; i < AN_HOUR; i++) {
-                drags[hour * AN_HOUR + i] = rule.dragOf(weight, i / 2 - MOST_HEIGHT, i % 2, hour);
+                for (int i = 0; i < AN_HOUR; i++) {
+                    drags[base + i] = rule.dragOf(weight, i / 2 - MOST_HEIGHT, i % 2, hour);
+                }
             }
         }
 
@@ -1636,17 +1611,18 @@ public final class OverTheHill {
 
     /** Ways of a weight over the ground, as if no SHIPS were there. */
     private static final class Ways {
-        static final int FAR = Integer.MAX_VALUE;
+        /** Above the cost of any way. */
+        static final int FAR = 1 << 30;
 
         private final Ground ground;
         private final Pulls pulls = new Pulls();
         private Rule rule;
         private int weight;
-        private long planks;
+        long planks;
         /** From each FIELD to the one that measure() was told. */
         private final int[] costs = new int[MOST_FIELDS];
-        private int leastLaid;
-        private long bestLaid;
+        int leastLaid;
+        long bestLaid;
 
         Ways(Ground land) {
             ground = land;
@@ -1828,7 +1804,7 @@ public final class OverTheHill {
     private static final class Traces {
         static final int ROOM = 12;
 
-        private int size;
+        int size;
         private int least = 1;
         private int most = MOST_WEIGHT;
 
@@ -1919,9 +1895,9 @@ public final class OverTheHill {
     private static final class Town {
         static final int MOST_WORTH = 60;
 
-        private final int[] mine = new int[MOST_WORTH + 1];
-        private final int[] theirs = new int[MOST_WORTH + 1];
-        private int first;
+        final int[] mine = new int[MOST_WORTH + 1];
+        final int[] theirs = new int[MOST_WORTH + 1];
+        int first;
 
         void settle(int worth, int turns) {
             for (int last = 0; last <= worth && last <= MOST_WORTH; last++) {
