@@ -275,6 +275,18 @@ public final class ActTests {
         Checks.due("undone as one too", x.undo(), 0);
         Checks.due("undone as one too: where", x.ship(0, 1), 0);
         Checks.due("undone as one too: planks", x.count(10), 0);
+        x.set(0, 31);
+        Checks.due("an act that answers 0 is done", Checks.tell(x, "d01").siege(), 1);
+        Checks.rowDue("an act that answers 0 is done", x, 0, 0);
+        Checks.due("an act alone is undone", x.undo(), 0);
+        x.plank(1);
+        Checks.due("planks taken up answer 0, and are", Checks.tell(x, "p01d13").siege(), 1);
+        x.undo();
+        x.undo();
+        Checks.due("a heading of 3", Checks.tell(x, "d01h1d03").siege(), 3);
+        x.undo();
+        Checks.due("a heading of 0", Checks.tell(x, "d10").siege(), 1);
+        x.undo();
         Checks.due("60 signs", Checks.tell(x, "h1".repeat(30)).siege(), 30);
         Checks.due("60 signs: night", x.count(5), 3);
     }

@@ -120,10 +120,30 @@ public final class LandTests {
         Checks.due("land anew: again(0)", x.again(0), false);
         Checks.tell(x, "9,00").ships();
         Checks.due("land anew: not dragged", x.ship(0, 2), 0);
+        x.set(1, 50);
+        x.drag(0, 1);
+        Checks.tell(x, "~1*/~~~").land();
+        Checks.tell(x, "9,00").ships();
+        Checks.due("land anew behind a drag: not dragged", x.ship(0, 2), 0);
+        Checks.due("land anew behind a drag: used", x.count(4), 0);
+        x.set(0, 999);
+        Checks.ruled(x, "99");
+        x.drag(0, 1);
+        Checks.tell(x, "~1*/~~~").land();
+        Checks.due("land anew behind a loud drag: noise", x.count(8), 0);
+        Checks.tell(x, "9,00").ships();
+        Checks.ruled(x, "w");
         Checks.due("land anew: THE RULE stays", x.pull(0, 1), 9);
         x.keep(1);
         Checks.tell(x, HILL).land();
         Checks.due("land anew without ships: again(1)", x.again(1), false);
+        for (int i = 0; i < 3; i++) {
+            x.keep(i);
+        }
+        Checks.tell(x, HILL).land();
+        for (int i = 0; i < 3; i++) {
+            Checks.due("land anew, as many ships: again(" + i + ")", x.again(i), false);
+        }
     }
 
     private static void promise4LandRefused() {

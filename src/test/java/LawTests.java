@@ -8,6 +8,7 @@ public final class LawTests {
         promise38Rests();
         promise38AllRests();
         promise39Sieges();
+        promise39Alone();
         promise39Drawn();
         Checks.finish("LawTests");
     }
@@ -114,6 +115,20 @@ public final class LawTests {
         Checks.due("nothing changes: dragged", x.ship(0, 2), 1);
         Checks.due("nothing changes: undo()", x.undo(), 1);
         Checks.due("nothing changes: planks", x.field(4, 2), 1);
+    }
+
+    private static void promise39Alone() {
+        OverTheHill x = Checks.landOf("~~", "10,00");
+        x.set(0, 11);
+        // Sideways or not, each hour one drag at most; 11 oxen are just enough.
+        Checks.due("one ship, just enough oxen", x.sieges(5, 99) > 0, true);
+        x.set(1, 0);
+        x.drag(0, 1);
+        x.hours(1);
+        Checks.due("an alarm ahead of it", x.count(9), 1);
+        x.set(1, 999);
+        x.sieges(5, 99);
+        Checks.rowDue("alarms by these alone", x, 0, 0);
     }
 
     /** Draws by themselves: which ship, which heading, done by the calls of the face. */

@@ -242,6 +242,12 @@ public final class WayTests {
         Checks.rowDue("two hills, one behind the other", two, 18);
         Checks.due("two hills, the first alone", two.planks(9, 1), 19);
         Checks.rowDue("two hills, the first alone", two, 2);
+        OverTheHill first = Checks.landOf("3*/~#");
+        Checks.due("at field 0", first.planks(3, 1), 5);
+        Checks.rowDue("at field 0", first, 1);
+        OverTheHill both = Checks.landOf("33*/~##");
+        Checks.due("at fields 0 and 1", both.planks(9, 2), 13);
+        Checks.rowDue("at fields 0 and 1", both, 3);
         OverTheHill worse = Checks.ruled(Checks.landOf("~11*/####/00~#"), "1+g*9+u");
         Checks.due("planks that make it worse are laid elsewhere", worse.planks(1, 1), 2);
         Checks.rowDue("planks that make it worse are laid elsewhere", worse, 256);
