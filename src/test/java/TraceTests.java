@@ -64,6 +64,9 @@ public final class TraceTests {
         x.trace(1, 0);
         Checks.due("less than 1", x.fits(), 0);
         Checks.rowDue("less than 1", x, 0);
+        OverTheHill fresh = Checks.tell(new OverTheHill(), "1,00;99,00");
+        fresh.ships();
+        Checks.due("the lightest and the heaviest, in a new object", fresh.fits(), 3);
     }
 
     private static void promise36Ask() {
