@@ -1,3 +1,7 @@
+import java.lang.reflect.InvocationTargetException;
+import java.lang.reflect.Method;
+import java.util.Arrays;
+import java.util.Comparator;
 import java.util.NoSuchElementException;
 
 /** What the tests share: telling texts, comparing answers, and the end of a test. */
@@ -81,6 +85,21 @@ final class Checks {
             throw new IllegalStateException("the test's rule is wrong: " + rule);
         }
         return x;
+    }
+
+    /** Runs each method named by a promise or the terms, so that none of them can be left out. */
+    static void runEach(Class<?> tests) throws IllegalAccessException, InvocationTargetException {
+        Method[] all = tests.getDeclaredMethods();
+        Arrays.sort(all, Comparator.comparing(Method::getName));
+        for (Method m : all) {
+            if (m.getName().startsWith("promise") || m.getName().startsWith("terms")) {
+                int before = asked;
+                m.setAccessible(true);
+                m.invoke(null);
+                due(m.getName() + " asks something", asked > before, true);
+            }
+        }
+        finish(tests.getName());
     }
 
     static void finish(String name) {
